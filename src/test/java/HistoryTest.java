@@ -10,6 +10,7 @@ public final class HistoryTest {
         undoLeavesTheTape();
         reports();
         longReports();
+        fullestHardware();
         CHECK.end();
     }
 
@@ -195,5 +196,33 @@ public final class HistoryTest {
         CHECK.due("report of a full log", Texts.report(x, 4), log.toString());
         CHECK.due("reportLength(4) of a full log", x.reportLength(4), 40 * 23);
         CHECK.due("hopHits(15) of a full log", x.hopHits(15), 40 * 999999);
+    }
+
+    /** Eighty prefixes in the hardware: forty of the target, and forty exceptions. */
+    private static void fullestHardware() {
+        ForwardingTable x = new ForwardingTable();
+        x.setCapacity(40);
+        x.addRoute(-256, 24, 1);
+        StringBuilder due = new StringBuilder("255.255.255.0/24 1\n255.255.255.101/32 x\n");
+        for (int i = 1; i < 40; i++) {
+            x.addRoute(-156 + 2 * i, 32, 15);
+            x.packet(-156 + 2 * i, 5);
+            due.append("255.255.255.").append(100 + 2 * i).append("/32 15\n");
+            due.append("255.255.255.").append(101 + 2 * i).append("/32 x\n");
+        }
+        x.packet(-256, 5);
+        CHECK.due("sync(200)", x.sync(200), 40);
+        for (int i = 0; i < 40; i++) {
+            CHECK.due("addRoute", x.addRoute(-155 + 2 * i, 32, 14), 1);
+            CHECK.due("removeRoute", x.removeRoute(-155 + 2 * i, 32), 2);
+        }
+        CHECK.due("hardwareSize()", x.hardwareSize(), 80);
+        CHECK.due("report of eighty prefixes", Texts.report(x, 3), due.toString());
+        CHECK.due("reportLength(3)", x.reportLength(3), 19 + 39 * 22 + 40 * 21);
+        CHECK.due("changes()", x.changes(), 40);
+        CHECK.due("missed()", x.missed(), 0);
+        CHECK.due("hardwareAddresses()", x.hardwareAddresses(), 256 - 40);
+        CHECK.due("addRoute without room", x.addRoute(-256, 32, 14), 80);
+        CHECK.due("clearings", x.count(4), 1);
     }
 }

@@ -41,6 +41,11 @@ public final class RouteTest {
         y.undo();
         CHECK.due("hardwareSize() after undo()", y.hardwareSize(), 3);
         CHECK.due("capacity() after undo()", y.capacity(), 2);
+        // Four prefixes fill the room of the capacity 2.
+        y.addRoute(Texts.ip(1, 1, 0, 0), 16, 2);
+        y.setCapacity(3);
+        CHECK.due("setCapacity(2) with 4 prefixes", y.setCapacity(2), true);
+        CHECK.due("hardwareSize() then", y.hardwareSize(), 4);
     }
 
     private static void adding() {
@@ -91,6 +96,7 @@ public final class RouteTest {
         CHECK.due("addRoute no. 61, wrong", x.addRoute(60, 32, 16), ForwardingTable.INVALID);
         CHECK.due("addRoute of one that is so", x.addRoute(59, 32, 59 % 16), ForwardingTable.NOT_FOUND);
         CHECK.due("addRoute with another hop", x.addRoute(59, 32, 1), 0);
+        CHECK.due("addRoute of the first with another hop", x.addRoute(0, 32, 1), 0);
         CHECK.due("routes()", x.routes(), 60);
         CHECK.due("route(59, 2)", x.route(59, 2), 1);
         CHECK.due("route(60, 2)", x.route(60, 2), -2);

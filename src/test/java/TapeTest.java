@@ -12,6 +12,9 @@ public final class TapeTest {
         numbersOutOfRange();
         refusedByWhatCameBefore();
         manyClauses();
+        cutTexts();
+        changedTexts();
+        bytesBehindTheTape();
         errorsLeaveTheTable();
         CHECK.end();
     }
@@ -74,6 +77,9 @@ public final class TapeTest {
         x.sync(5);
         x.clear();
         x.addRoute(0, 1, 4);
+        CHECK.due("targetSize() before load()", x.targetSize(), 1);
+        CHECK.due("runs() before load()", x.runs(), 4);
+        CHECK.due("changes() before load()", x.changes(), 1);
         CHECK.due("load() of another text",
                 Texts.load(x, "capacity 40;\nroute 255.0.0.0/8 hop 15;route 0.0.0.0/0 hop 0;"
                         + "seen 9.9.9.9 times 999;seen 0.0.0.1 times 1;"), 2);
@@ -88,6 +94,10 @@ public final class TapeTest {
         CHECK.due("log(0, 1)", x.log(0, 1), 999);
         CHECK.due("log(1, 0)", x.log(1, 0), 1);
         CHECK.due("hardwareSize() after load()", x.hardwareSize(), 0);
+        CHECK.due("runs() after load()", x.runs(), 2);
+        CHECK.due("compressed() after load()", x.compressed(), 1);
+        CHECK.due("targetSize() after load()", x.targetSize(), 0);
+        CHECK.due("changes() after load()", x.changes(), 0);
         CHECK.due("undo() after load()", x.undo(), ForwardingTable.INVALID);
         for (int what = 0; what < 5; what++) {
             CHECK.due("count(" + what + ") after load()", x.count(what), 0);
@@ -131,6 +141,13 @@ public final class TapeTest {
         wrong("^8;");
         wrong("^capacit 8;");
         wrong("^capacitys 8;");
+        wrong("^capacityz 8;");
+        wrong("^zapacity 8;");
+        wrong("^xapacity 8;");
+        wrong("capacity^` 8;");
+        wrong("capacity^{ 8;");
+        wrong("capacity 8^:");
+        wrong("capacity 8^/");
         wrong("^Capacity 8;");
         wrong("^route 1.0.0.0/8 hop 1;");
         wrong("capacity^");
@@ -156,6 +173,10 @@ public final class TapeTest {
         wrong("capacity 8;route 1.0.0.0^.0/8 hop 1;");
         wrong("capacity 8;route 1.0.0.0^ hop 1;".replace("^ ", " ^"));
         wrong("capacity 8;route 1.0.0.0/^hop 1;");
+        wrong("capacity 8;route 1.0.0.0 ^8 hop 1;");
+        wrong("capacity 8;route 1.0.0.0/8 ^1;");
+        wrong("capacity 8;route 1 ^0.0.0/8 hop 1;");
+        wrong("capacity 8;seen 1.0.0.0 ^1;");
         wrong("capacity 8;route 1.0.0.0/8 ^;");
         wrong("capacity 8;route 1.0.0.0/8 hop ^;");
         wrong("capacity 8;route 1.0.0.0/8 hop 1^");
@@ -215,6 +236,60 @@ public final class TapeTest {
         wrong(clauses(0, 40) + "^seen99.0.0.0times1;");
         wrong(clauses(60, 40) + "^seen");
         wrong(clauses(60, 40) + "^route");
+    }
+
+    private static void asInTheModel(String text) {
+        ForwardingTable x = new ForwardingTable();
+        ModelText m = new ModelText(text);
+        CHECK.due("load() of " + text, Texts.load(x, text), m.error < 0 ? m.table.routes.size() : -1);
+        CHECK.due("errorPosition() of " + text, x.errorPosition(), m.error);
+    }
+
+    private static final String WHOLE = "capacity 12 ;route 1.20.0.0/16 hop 10;route 255.254.253.252/32hop0;\n"
+            + "seen 0.1.23.255 times 400;seen 9.8.7.6 times 1;";
+
+    private static void cutTexts() {
+        for (int end = 0; end <= WHOLE.length(); end++) {
+            asInTheModel(WHOLE.substring(0, end));
+        }
+    }
+
+    /** The text with each byte left out, and with each byte replaced by some others. */
+    private static void changedTexts() {
+        String others = " ;./0z9c\n\t-";
+        for (int at = 0; at < WHOLE.length(); at++) {
+            asInTheModel(WHOLE.substring(0, at) + WHOLE.substring(at + 1));
+            for (char c : others.toCharArray()) {
+                asInTheModel(WHOLE.substring(0, at) + c + WHOLE.substring(at + 1));
+            }
+        }
+    }
+
+    /** What was cut off the tape counts no more, even if it would go on with a token. */
+    private static void bytesBehindTheTape() {
+        ForwardingTable x = new ForwardingTable();
+        Texts.put(x, "capacityx");
+        x.truncate(1);
+        x.load();
+        CHECK.due("errorPosition() of a cut word", x.errorPosition(), 8);
+        Texts.put(x, "capacity 1111");
+        x.truncate(3);
+        x.load();
+        CHECK.due("errorPosition() of a cut number", x.errorPosition(), 10);
+        Texts.put(x, "capacity 11;route");
+        x.truncate(5);
+        CHECK.due("load() of a cut text", x.load(), 0);
+        CHECK.due("capacity()", x.capacity(), 11);
+        for (int i = 0; i < 110; i++) {
+            x.append(0x20202020, 0x20202020, 0x20202020, 0x20202020, i < 109 ? 0x20202020 : 0x63617061);
+        }
+        x.load();
+        CHECK.due("errorPosition() at the end of a full tape", x.errorPosition(), 2196);
+        for (int i = 0; i < 110; i++) {
+            x.append(0x20202020, 0x20202020, 0x20202020, 0x20202020, 0x20202020);
+        }
+        x.load();
+        CHECK.due("errorPosition() of a full tape of spaces", x.errorPosition(), 2200);
     }
 
     private static void errorsLeaveTheTable() {

@@ -12,10 +12,20 @@ public final class TargetTest {
         noHits();
         otherCapacities();
         atTheMost();
+        oneTree();
+        lastOfSixty();
+        deepest();
         CHECK.end();
     }
 
     private static void nothingToKeep() {
+        CHECK.due("coldest() as the first call", new ForwardingTable().coldest(), -2);
+        CHECK.due("exceptions() as the first call", Texts.loaded("capacity 8;" + NESTED
+                + "seen 10.9.0.0 times 1;").exceptions(), 1);
+        CHECK.due("target(1, 2) as the first call", Texts.loaded("capacity 8;" + NESTED
+                + "seen 10.9.0.0 times 1;").target(1, 2), ForwardingTable.EXCEPTION);
+        CHECK.due("coldest() as the first call", Texts.loaded("capacity 8;" + NESTED
+                + "seen 10.1.2.0 times 1;").coldest(), 2);
         ForwardingTable x = Texts.loaded("capacity 8;" + NESTED + "seen 99.0.0.0 times 9;");
         CHECK.due("targetSize() without hits", x.targetSize(), 0);
         CHECK.due("exceptions() without hits", x.exceptions(), 0);
@@ -137,5 +147,69 @@ public final class TargetTest {
         CHECK.due("enough() with it", x.enough(), x.compressed());
         CHECK.due("lostHits() with it", x.lostHits(), 3 * 9999);
         CHECK.due("entry(0, 5)", x.entry(0, 5), 0);
+    }
+
+    /** Sixty entries, all but one inside one of them. */
+    private static void oneTree() {
+        ForwardingTable x = new ForwardingTable();
+        x.addRoute(0, 0, 15);
+        for (int i = 0; i < 59; i++) {
+            x.addRoute(Texts.ip(4 * i + 1, 0, 0, 0), 8 + i % 3, 1 + i % 14);
+        }
+        x.packet(0, 5);
+        CHECK.due("compressed()", x.compressed(), 60);
+        CHECK.due("enough()", x.enough(), 60);
+        CHECK.due("lostHitsWith(59)", x.lostHitsWith(59), 5);
+        CHECK.due("lostHitsWith(60)", x.lostHitsWith(60), 0);
+        x.setCapacity(40);
+        CHECK.due("targetSize()", x.targetSize(), 0);
+        x.packet(Texts.ip(4 * 58 + 1, 0, 0, 0), 3);
+        CHECK.due("target", Texts.report(x, 2), "233.0.0.0/9 3\n");
+        CHECK.due("coldest()", x.coldest(), 59);
+    }
+
+    /** An entry without hits inside the one before the last of sixty. */
+    private static void lastOfSixty() {
+        ForwardingTable x = new ForwardingTable();
+        for (int i = 0; i < 59; i++) {
+            x.addRoute(Texts.ip(4 * i + 1, 0, 0, 0), 8, 1 + i % 14);
+        }
+        x.addRoute(Texts.ip(233, 1, 0, 0), 16, 15);
+        x.packet(Texts.ip(233, 0, 0, 0), 1);
+        CHECK.due("compressed()", x.compressed(), 60);
+        CHECK.due("entry(58, 5)", x.entry(58, 5), 1);
+        CHECK.due("entry(59, 5)", x.entry(59, 5), 1);
+        CHECK.due("target", Texts.report(x, 2), "233.0.0.0/8 3\n233.1.0.0/16 15\n");
+    }
+
+    /** Thirty-one entries, each of which lies inside the one before. */
+    private static void deepest() {
+        ForwardingTable x = new ForwardingTable();
+        x.setCapacity(40);
+        for (int length = 0; length <= 32; length++) {
+            // Without routes of the lengths 14 and 28, what is inside does not count around it.
+            if (length != 14 && length != 28) {
+                x.addRoute(0, length, length < 14 ? length + 1 : length < 28 ? length - 14 : length - 28);
+            }
+        }
+        CHECK.due("compressed()", x.compressed(), 31);
+        for (int i = 1; i < 31; i++) {
+            CHECK.due("entry(" + i + ", 3)", x.entry(i, 3), i - 1);
+        }
+        for (int i = 0; i < 31; i++) {
+            int length = (int) x.entry(i, 1);
+            x.packet(length == 32 ? 0 : 1 << (31 - length), 31 - i);
+        }
+        for (int i = 0; i < 31; i++) {
+            CHECK.due("entry(" + i + ", 4)", x.entry(i, 4), 31 - i);
+        }
+        CHECK.due("enough()", x.enough(), 31);
+        // With fewer places, the entries around are kept down to an exception, or those inside: n
+        // places keep the last n, or any other n - 1 that follow each other.
+        for (int n = 1; n < 31; n++) {
+            int last = n * (n + 1) / 2;
+            int first = 31 * 32 / 2 - (32 - n) * (33 - n) / 2;
+            CHECK.due("lostHitsWith(" + n + ")", x.lostHitsWith(n), 31 * 32 / 2 - Math.max(last, first));
+        }
     }
 }

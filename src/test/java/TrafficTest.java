@@ -108,8 +108,12 @@ public final class TrafficTest {
         CHECK.due("undo()", x.undo(), 2);
         CHECK.due("log(0, 1) after undo()", x.log(0, 1), 1);
         ForwardingTable y = Texts.loaded("capacity 8;seen 1.0.0.0 times 4;");
+        y.addRoute(0, 1, 1);
+        CHECK.due("entry(0, 4) before age()", y.entry(0, 4), 4);
         CHECK.due("age() that drops none", y.age(), 0);
-        CHECK.due("it can be undone", y.undo(), 0);
+        CHECK.due("entry(0, 4) after age()", y.entry(0, 4), 2);
+        CHECK.due("it can be undone", y.undo(), 1);
+        CHECK.due("entry(0, 4) after undo()", y.entry(0, 4), 4);
     }
 
     private static void hopHits() {
