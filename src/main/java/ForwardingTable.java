@@ -601,7 +601,6 @@ public final class ForwardingTable {
         if (kind < ROUTES_REPORT || kind > LOG_REPORT) {
             return INVALID;
         }
-        settle(CHOSEN);
         writeReport(kind);
         return report.size;
     }
@@ -611,7 +610,6 @@ public final class ForwardingTable {
         if (kind < ROUTES_REPORT || kind > LOG_REPORT || i < 0) {
             return INVALID;
         }
-        settle(CHOSEN);
         writeReport(kind);
         return i < report.size ? report.bytes[i] : NOT_FOUND;
     }
@@ -659,9 +657,11 @@ public final class ForwardingTable {
                 report.addPrefixes(state.routes);
                 break;
             case ENTRIES_REPORT:
+                settle(COMPRESSED);
                 report.addPrefixes(entries);
                 break;
             case TARGET_REPORT:
+                settle(CHOSEN);
                 report.addPrefixes(choice.target);
                 break;
             case HARDWARE_REPORT:
@@ -678,7 +678,7 @@ public final class ForwardingTable {
         return at < 0 ? 0 : state.routes.hops[at];
     }
 
-    /** Without a route, the addresses that it matches get the answer of the next longer one. */
+    /** Without a route, the addresses that it matches get the answer of the longest one around it. */
     private boolean changesNoAnswer(int i) {
         int outer = routeCover.parent[i];
         int answerWithout = outer < 0 ? 0 : state.routes.hops[outer];
@@ -1315,7 +1315,7 @@ public final class ForwardingTable {
         int compress(PrefixSet routes) {
             nodes = 0;
             addNode(keyOf(0, 0), 0, routes.size, NONE, 0);
-            for (int i = 0; i < nodes; i++) {
+            for (int i = 0; i < nodes && i < MOST_NODES; i++) {
                 open(i, routes);
             }
             gatherSets();
