@@ -171,7 +171,7 @@ public final class TapeTest {
         wrong("capacity 8;route ^.0.0.0/8 hop 1;");
         wrong("capacity 8;route 1^/8 hop 1;");
         wrong("capacity 8;route 1.0.0.0^.0/8 hop 1;");
-        wrong("capacity 8;route 1.0.0.0^ hop 1;".replace("^ ", " ^"));
+        wrong("capacity 8;route 1.0.0.0 ^hop 1;");
         wrong("capacity 8;route 1.0.0.0/^hop 1;");
         wrong("capacity 8;route 1.0.0.0 ^8 hop 1;");
         wrong("capacity 8;route 1.0.0.0/8 ^1;");
