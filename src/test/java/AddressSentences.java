@@ -11,11 +11,11 @@ final class AddressSentences {
     }
 
     static void tests(Sentences s) {
-        addresses(s);
-        nextOther(s);
-        runs(s);
-        redundant(s);
-        nesting(s);
+        s.run(AddressSentences::addresses);
+        s.run(AddressSentences::nextOther);
+        s.run(AddressSentences::runs);
+        s.run(AddressSentences::redundant);
+        s.run(AddressSentences::nesting);
     }
 
     private static ForwardingTable with(int... routes) {
@@ -156,6 +156,7 @@ final class AddressSentences {
         s.due("nesting() of sixty beside each other", Texts.full().nesting(), 1);
         s.due("nesting() of two", with(TEN, 8, 1, TEN, 9, 1).nesting(), 2);
         s.due("nesting() of two and one beside", with(TEN, 8, 1, TEN, 9, 1, Texts.ip(10, 128, 0, 0), 9, 1).nesting(), 2);
+        s.due("nesting() of the first ones", with(TEN, 8, 1, TEN, 9, 1, Texts.ip(99, 0, 0, 0), 8, 1).nesting(), 2);
         s.due("nesting() of the last ones", with(0, 32, 1, -1, 32, 1, -2, 31, 1, -4, 30, 1).nesting(), 3);
         ForwardingTable x = new ForwardingTable();
         for (int length = 0; length <= 32; length++) {

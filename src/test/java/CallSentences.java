@@ -14,16 +14,16 @@ final class CallSentences {
     }
 
     static void tests(Sentences s) {
-        manyCalls(s);
-        invalidArguments(s);
-        operations(s);
-        latestEight(s);
-        constants(s);
-        count(s);
-        undo(s);
-        reportLines(s);
-        reportKinds(s);
-        reportBytes(s);
+        s.run(CallSentences::manyCalls);
+        s.run(CallSentences::invalidArguments);
+        s.run(CallSentences::operations);
+        s.run(CallSentences::latestEight);
+        s.run(CallSentences::constants);
+        s.run(CallSentences::count);
+        s.run(CallSentences::undo);
+        s.run(CallSentences::reportLines);
+        s.run(CallSentences::reportKinds);
+        s.run(CallSentences::reportBytes);
     }
 
     private static void manyCalls(Sentences s) {
@@ -171,6 +171,8 @@ final class CallSentences {
         ForwardingTable x = ready();
         x.sync(1);
         call.applyAsLong(x);
+        // What was worked out for this state must not be told behind undo().
+        Texts.state(x);
         x.undo();
         ForwardingTable twin = ready();
         twin.sync(1);
@@ -452,6 +454,7 @@ final class CallSentences {
             s.due("reportByte(" + kind + ", greatest int)", x.reportByte(kind, GREATEST), NOT_FOUND);
         }
         // A report that was longer before ends earlier now.
+        s.due("reportLength(0)", x.reportLength(0), routes.length());
         x.removeRoute(TEN, 8);
         s.due("reportByte(0, 12)", x.reportByte(0, 12), '\n');
         s.due("reportByte(0, 13)", x.reportByte(0, 13), NOT_FOUND);

@@ -35,8 +35,9 @@ final class Check {
     }
 
     void end() {
+        Texts.FAULTS.forEach(System.out::println);
         System.out.println(test + ": " + calls + " answers, " + wrong + " not as due");
-        if (calls == 0 || wrong != 0) {
+        if (calls == 0 || wrong != 0 || !Texts.FAULTS.isEmpty()) {
             System.exit(1);
         }
     }

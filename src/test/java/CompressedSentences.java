@@ -14,16 +14,16 @@ final class CompressedSentences {
     }
 
     static void tests(Sentences s) {
-        sets(s);
-        treatment(s);
-        sameAnswersWithTheFewest(s);
-        numbersAndParents(s);
-        compressed(s);
-        entry(s);
-        wrongEntryNumbers(s);
-        busiest(s);
-        without(s);
-        costliest(s);
+        s.run(CompressedSentences::sets);
+        s.run(CompressedSentences::treatment);
+        s.run(CompressedSentences::sameAnswersWithTheFewest);
+        s.run(CompressedSentences::numbersAndParents);
+        s.run(CompressedSentences::compressed);
+        s.run(CompressedSentences::entry);
+        s.run(CompressedSentences::wrongEntryNumbers);
+        s.run(CompressedSentences::busiest);
+        s.run(CompressedSentences::without);
+        s.run(CompressedSentences::costliest);
     }
 
     private static ForwardingTable with(int... routes) {
@@ -55,6 +55,8 @@ final class CompressedSentences {
         entries(s, "0.0.0.6/31 14\n0.0.0.6/32 15\n", 6, 32, 15, 7, 32, 14);
         entries(s, "255.255.255.254/31 14\n255.255.255.255/32 15\n", -2, 32, 14, -1, 32, 15);
         entries(s, "0.0.0.0/0 1\n128.0.0.0/1 2\n", 0, 1, 1, Q2, 1, 2);
+        // In the upper half of all, the one half has the hop 1 and the other one has no route.
+        entries(s, "0.0.0.0/0 1\n192.0.0.0/2 0\n", 0, 2, 1, Q1, 2, 1, Q2, 2, 1);
         // A route of length 32 in a table of length 0: 32 prefixes are halved on the way.
         entries(s, "0.0.0.0/0 1\n255.255.255.255/32 2\n", 0, 0, 1, -1, 32, 2);
         // Routes in both halves of each prefix down to the length 32.
@@ -181,6 +183,7 @@ final class CompressedSentences {
         for (int i = 0; i < parents.length; i++) {
             s.due("entry(" + i + ", 3)", x.entry(i, 3), parents[i]);
         }
+        s.due("entry(2, 3) just behind another one", with(0, 2, 1, Q1, 2, 2, Q2, 2, 2, Q3, 2, 1).entry(2, 3), 0);
         // Each inside the one before, at most as many as the hops let there be.
         ForwardingTable y = new ForwardingTable();
         for (int length = 0; length < 15; length++) {
@@ -281,6 +284,7 @@ final class CompressedSentences {
 
         s.says("promise 45", "Returns the number of entries that the compressed table would have without this route;");
         s.due("compressedWithout(0) of the only one", with(0, 0, 9).compressedWithout(0), 0);
+        s.due("compressedWithout(1) is not as with the hop 0", with(0, 0, 1, Q2, 8, 2).compressedWithout(1), 1);
         s.due("compressedWithout(0) of one with the hop 0", with(0, 0, 0).compressedWithout(0), 0);
         s.due("compressedWithout(1): more than with it", with(0, 2, 1, Q1, 2, 1, Q2, 2, 1, Q3, 2, 1).compressedWithout(1), 2);
         s.due("compressed() stays", x.compressed(), 2);

@@ -13,24 +13,24 @@ final class HardwareSentences {
     }
 
     static void tests(Sentences s) {
-        actions(s);
-        neverWrong(s);
-        room(s);
-        routeChanges(s);
-        exceptions(s);
-        clearingAndChurn(s);
-        clearedFirst(s);
-        limit(s);
-        order(s);
-        telling(s);
-        action(s);
-        changes(s);
-        wrongChangeNumbers(s);
-        missedAfter(s);
-        sync(s);
-        syncRefused(s);
-        clear(s);
-        hardwareAddresses(s);
+        s.run(HardwareSentences::actions);
+        s.run(HardwareSentences::neverWrong);
+        s.run(HardwareSentences::room);
+        s.run(HardwareSentences::routeChanges);
+        s.run(HardwareSentences::exceptions);
+        s.run(HardwareSentences::clearingAndChurn);
+        s.run(HardwareSentences::clearedFirst);
+        s.run(HardwareSentences::limit);
+        s.run(HardwareSentences::order);
+        s.run(HardwareSentences::telling);
+        s.run(HardwareSentences::action);
+        s.run(HardwareSentences::changes);
+        s.run(HardwareSentences::wrongChangeNumbers);
+        s.run(HardwareSentences::missedAfter);
+        s.run(HardwareSentences::sync);
+        s.run(HardwareSentences::syncRefused);
+        s.run(HardwareSentences::clear);
+        s.run(HardwareSentences::hardwareAddresses);
     }
 
     /** 10/8 and 10.1/16 are in the hardware, which has room for four. */
@@ -179,6 +179,11 @@ final class HardwareSentences {
         ForwardingTable between = two();
         between.addRoute(TEN, 9, 9);
         s.due("hardware when one between comes", Texts.report(between, 3), "10.0.0.0/8 1\n10.0.0.0/9 x\n");
+        ForwardingTable zero = Texts.loaded("capacity 2;route 0.0.0.0/0 hop 15;route 10.0.0.0/8 hop 0;"
+                + "seen 0.0.0.0 times 1;seen 10.0.0.0 times 1;");
+        zero.sync(2);
+        zero.addRoute(TEN, 7, 9);
+        s.due("hardware when one around the hop 0 comes", Texts.report(zero, 3), "0.0.0.0/0 15\n10.0.0.0/7 x\n");
         ForwardingTable beside = two();
         beside.addRoute(Texts.ip(11, 0, 0, 0), 8, 9);
         beside.addRoute(Texts.ip(9, 0, 0, 0), 8, 9);
@@ -419,6 +424,7 @@ final class HardwareSentences {
         s.says("promise 33", "Returns a number of a change that sync() would make without a limit.");
         s.due("change(3, 1), far behind the first", turned().change(3, 1), 16);
         s.due("change(0, 0) of one behind clearing", turnedWithoutRoom().change(0, 0), Texts.ip(7, 0, 0, 0));
+        s.due("change(2, 0): what clearing removes is none", turnedWithoutRoom().change(2, 0), NOT_FOUND);
 
         s.says("promise 33", "`i`: index of the change in the order in which they would be made, from 0");
         long[] values = {7L << 24, 5L << 24, 1L << 24, 3L << 24};

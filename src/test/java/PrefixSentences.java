@@ -10,19 +10,19 @@ final class PrefixSentences {
     }
 
     static void tests(Sentences s) {
-        addresses(s);
-        prefixes(s);
-        insideAndOrder(s);
-        routes(s);
-        matching(s);
-        capacity(s);
-        setCapacity(s);
-        tellingRoutes(s);
-        wrongRouteNumbers(s);
-        addRoute(s);
-        addRouteRefused(s);
-        removeRoute(s);
-        answerAndMatching(s);
+        s.run(PrefixSentences::addresses);
+        s.run(PrefixSentences::prefixes);
+        s.run(PrefixSentences::insideAndOrder);
+        s.run(PrefixSentences::routes);
+        s.run(PrefixSentences::matching);
+        s.run(PrefixSentences::capacity);
+        s.run(PrefixSentences::setCapacity);
+        s.run(PrefixSentences::tellingRoutes);
+        s.run(PrefixSentences::wrongRouteNumbers);
+        s.run(PrefixSentences::addRoute);
+        s.run(PrefixSentences::addRouteRefused);
+        s.run(PrefixSentences::removeRoute);
+        s.run(PrefixSentences::answerAndMatching);
     }
 
     private static ForwardingTable with(int... routes) {
@@ -153,6 +153,7 @@ final class PrefixSentences {
 
         s.says("section 2", "There are at most 60 routes, all with different prefixes; they are numbered from 0 in the "
                 + "order of their prefixes.");
+        s.due("routes() of one prefix with two hops", with(0, 0, 1, 0, 0, 2).routes(), 1);
         ForwardingTable x = sixty();
         s.due("routes()", x.routes(), 60);
         s.due("a route no. 61", x.addRoute(1, 32, 1), ForwardingTable.FULL);
@@ -275,6 +276,7 @@ final class PrefixSentences {
         s.due("route(0, 4) of none", z.route(0, 4), 0);
         s.due("route(4, 3): the longest of three around", z.route(4, 3), 3);
         s.due("route(2, 3): not the one beside", z.route(2, 3), 0);
+        s.due("route(0, 4) on both sides of another one", with(0, 0, 1, TEN, 8, 1).route(0, 4), (1L << 32) - (1 << 24));
         s.due("route(3, 4) without those of the one inside", z.route(3, 4), (1 << 30) - (1 << 24));
 
         s.says("promise 9", "`i`: number of a route");
@@ -312,6 +314,7 @@ final class PrefixSentences {
         s.due("routes() behind another length", x.routes(), 2);
         s.due("route(0, 2) stays", x.route(0, 2), 2);
         s.due("routes that came or got another hop", x.count(3), 3);
+        s.due("routes(), the longer one first", with(TEN, 9, 3, TEN, 8, 3).routes(), 2);
 
         s.says("promise 10", "`value`: the value of the prefix");
         s.due("route(0, 0) of -1", with(-1, 32, 1).route(0, 0), 4294967295L);

@@ -2,6 +2,7 @@ import java.util.ArrayList;
 import java.util.LinkedHashSet;
 import java.util.List;
 import java.util.Set;
+import java.util.function.Consumer;
 import java.util.function.Supplier;
 import java.util.function.ToLongFunction;
 
@@ -29,6 +30,16 @@ final class Sentences {
             fail("is tested twice");
         }
         answersBefore = answers;
+    }
+
+    /** Runs tests of some sentences; if they throw, the others go on. */
+    void run(Consumer<Sentences> tests) {
+        try {
+            tests.accept(this);
+        } catch (RuntimeException e) {
+            answers++;
+            fail("threw " + e);
+        }
     }
 
     private void endOfSentence() {
@@ -90,8 +101,9 @@ final class Sentences {
     boolean tell() {
         endOfSentence();
         told.forEach(System.out::println);
+        Texts.FAULTS.forEach(System.out::println);
         System.out.println("SentencesTest: " + tested.size() + " sentences, " + answers + " answers, " + wrong
                 + " not as due");
-        return wrong == 0;
+        return wrong == 0 && Texts.FAULTS.isEmpty();
     }
 }

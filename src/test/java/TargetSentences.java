@@ -16,15 +16,15 @@ final class TargetSentences {
     }
 
     static void tests(Sentences s) {
-        exceptionsAndPlaces(s);
-        lostHitsOfAChoice(s);
-        bestChoice(s);
-        target(s);
-        coldest(s);
-        sizes(s);
-        tellingTheTarget(s);
-        lostHits(s);
-        enough(s);
+        s.run(TargetSentences::exceptionsAndPlaces);
+        s.run(TargetSentences::lostHitsOfAChoice);
+        s.run(TargetSentences::bestChoice);
+        s.run(TargetSentences::target);
+        s.run(TargetSentences::coldest);
+        s.run(TargetSentences::sizes);
+        s.run(TargetSentences::tellingTheTarget);
+        s.run(TargetSentences::lostHits);
+        s.run(TargetSentences::enough);
     }
 
     private static ForwardingTable nested(int capacity, int a, int b, int c, int d) {
@@ -109,6 +109,8 @@ final class TargetSentences {
         s.due("kept with 3", kept(nested(3, 8, 4, 2, 1)), "1001");
         s.due("lostHits() with 3", nested(3, 8, 4, 2, 1).lostHits(), 6);
         s.due("lostHits() with 1", beside(1, 8, 4, 2, 1).lostHits(), 7);
+        s.due("lostHits() of an entry with two addresses", Texts.loaded("capacity 1;" + BESIDE + "seen 1.0.0.0 times 4;"
+                + "seen 1.0.0.1 times 5;seen 3.0.0.0 times 5;seen 3.0.0.1 times 3;").lostHits(), 8);
         // What is no hit of an entry cannot be lost.
         s.due("lostHits() without entries", Texts.loaded("capacity 1;seen 9.0.0.0 times 9;").lostHits(), 0);
     }

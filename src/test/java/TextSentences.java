@@ -8,19 +8,19 @@ final class TextSentences {
     }
 
     static void tests(Sentences s) {
-        newObject(s);
-        append(s);
-        truncate(s);
-        tokens(s);
-        words(s);
-        numbersAndSigns(s);
-        grammar(s);
-        ranges(s);
-        errorPosition(s);
-        refusedTokens(s);
-        load(s);
-        loadOfAnError(s);
-        latestError(s);
+        s.run(TextSentences::newObject);
+        s.run(TextSentences::append);
+        s.run(TextSentences::truncate);
+        s.run(TextSentences::tokens);
+        s.run(TextSentences::words);
+        s.run(TextSentences::numbersAndSigns);
+        s.run(TextSentences::grammar);
+        s.run(TextSentences::ranges);
+        s.run(TextSentences::errorPosition);
+        s.run(TextSentences::refusedTokens);
+        s.run(TextSentences::load);
+        s.run(TextSentences::loadOfAnError);
+        s.run(TextSentences::latestError);
     }
 
     private static void right(Sentences s, String text, int routes) {
@@ -170,6 +170,7 @@ final class TextSentences {
     private static void tokens(Sentences s) {
         s.says("section 7", "Tokens are formed greedily.");
         right(s, "capacity8;route1.0.0.0/8hop1;seen1.2.3.4times5;", 1);
+        right(s, "capacity008;route100.200.030.004/032hop015;seen255.255.255.255times100;", 1);
         wrong(s, "^capacityroute 8;");
         wrong(s, "capacity 8;route 1.0.0.0/8 ^hops 1;");
         wrong(s, "capacity 8;^seenseen 1.0.0.0 times 1;");
@@ -201,11 +202,18 @@ final class TextSentences {
         wrong(s, "^capacit 8;");
         wrong(s, "^capacityy 8;");
         wrong(s, "^acapacity 8;");
+        wrong(s, "^capacityz 8;");
+        wrong(s, "^capacitya 8;");
+        wrong(s, "^xapacity 8;");
+        wrong(s, "capacity 8;^zoute 1.0.0.0/8 hop 1;");
+        wrong(s, "capacity 8;^been 1.0.0.0 times 1;");
+        wrong(s, "capacity 8;route 1.0.0.0/8 ^top 1;");
+        wrong(s, "capacity 8;seen 1.0.0.0 ^dimes 1;");
         wrong(s, "^capacitz 8;");
         wrong(s, "^z 8;");
         wrong(s, "^a");
         wrong(s, "^Capacity 8;");
-        wrong(s, "^cApacity 8;".replace("^c", "^c"));
+        wrong(s, "^cApacity 8;");
         wrong(s, "capacity^Z 8;");
         wrong(s, "capacity^` 8;");
         wrong(s, "capacity^{ 8;");
@@ -272,9 +280,32 @@ final class TextSentences {
         // Each token of the clauses, left out.
         String[] route = {"route ", "1", ".", "0", ".", "0", ".", "0", "/", "8", "hop ", "1", ";"};
         String[] seen = {"seen ", "1", ".", "0", ".", "0", ".", "0", "times ", "1", ";"};
+        String[] capacity = {"capacity ", "8", ";"};
         leftOut(s, "capacity 8;", route);
         leftOut(s, "capacity 8;route 1.0.0.0/8 hop 1;", seen);
-        leftOut(s, "", new String[] {"capacity ", "8", ";"});
+        leftOut(s, "", capacity);
+        replaced(s, "capacity 8;", route);
+        replaced(s, "capacity 8;route 1.0.0.0/8 hop 1;", seen);
+        replaced(s, "", capacity);
+    }
+
+    /** A token of another kind cannot stand in the place of one; but either clause may begin. */
+    private static void replaced(Sentences s, String before, String[] tokens) {
+        String[] others = {"capacity", "route", "hop", "seen", "times", "1", ";", ".", "/", "?"};
+        for (int at = 0; at < tokens.length; at++) {
+            for (String other : others) {
+                boolean isNumber = Character.isDigit(other.charAt(0)) && Character.isDigit(tokens[at].charAt(0));
+                boolean begins = at == 0 && !before.isEmpty() && (other.equals("route") || other.equals("seen"));
+                if (isNumber || begins || other.equals(tokens[at].strip())) {
+                    continue;
+                }
+                StringBuilder text = new StringBuilder(before);
+                for (int i = 0; i < tokens.length; i++) {
+                    text.append(i == at ? "^" + other : tokens[i]).append(' ');
+                }
+                wrong(s, text.toString());
+            }
+        }
     }
 
     /** Where a token is left out, the next one cannot stand; white space keeps the others apart. */
@@ -311,6 +342,7 @@ final class TextSentences {
         wrong(s, "capacity 8;route 1.0.^256.0/8 hop 1;");
         wrong(s, "capacity 8;route 1.0.0.^256/8 hop 1;");
         wrong(s, "capacity 8;route 1.0.0.0/^33 hop 1;");
+        wrong(s, "capacity 8;route 0.0.0.0/^33 hop 1;");
         wrong(s, "capacity 8;route 1.0.0.0/^64 hop 1;");
         wrong(s, "capacity 8;route 1.0.0.0/8 hop ^16;");
         wrong(s, "capacity 8;route 1.0.0.0/8 hop ^999;");
@@ -425,16 +457,14 @@ final class TextSentences {
         String[] texts = {"", "?", "capacity 5;route 0.0.0.0/0 hop 2;seen 1.1.1.1 times 2;?",
             "capacity 5;route 0.0.0.0/0 hop 2;seen 1.1.1.1 times 2; seen 1.1.1.1 times 1;", "capacity 41;"};
         for (String text : texts) {
-            ForwardingTable twin = Texts.busy();
-            twin.truncate(twin.tapeLength());
-            ForwardingTable x = Texts.busy();
-            x.truncate(x.tapeLength());
+            ForwardingTable twin = undoable();
+            ForwardingTable x = undoable();
             s.due("load() of " + text, Texts.load(x, text), INVALID);
             s.due("state behind " + text, Texts.state(x), Texts.state(twin));
-            for (int i = twin.undo(); i >= 0; i--) {
-                s.due("undo() behind " + text, x.undo(), i);
-                s.due("state undone behind " + text, Texts.state(x), Texts.state(twin));
+            for (int left = 1; left >= 0; left--) {
                 twin.undo();
+                s.due("undo() behind " + text, x.undo(), left);
+                s.due("state undone behind " + text, Texts.state(x), Texts.state(twin));
             }
             s.due("undo() of none left", x.undo(), INVALID);
         }
@@ -444,6 +474,13 @@ final class TextSentences {
         s.due("load() of a full tape of white space", fullTape().load(), INVALID);
         wrong(s, "capacity 8;^?");
         wrong(s, clauses(60, 40) + "^;");
+    }
+
+    private static ForwardingTable undoable() {
+        ForwardingTable x = Texts.loaded("capacity 3;route 10.0.0.0/8 hop 1;seen 10.0.0.9 times 7;");
+        x.sync(1);
+        x.packet(Texts.ip(10, 0, 0, 9), 2);
+        return x;
     }
 
     private static void latestError(Sentences s) {

@@ -9,14 +9,14 @@ final class TrafficSentences {
     }
 
     static void tests(Sentences s) {
-        theLog(s);
-        fullLog(s);
-        hits(s);
-        packet(s);
-        age(s);
-        log(s);
-        hopHits(s);
-        missed(s);
+        s.run(TrafficSentences::theLog);
+        s.run(TrafficSentences::fullLog);
+        s.run(TrafficSentences::hits);
+        s.run(TrafficSentences::packet);
+        s.run(TrafficSentences::age);
+        s.run(TrafficSentences::log);
+        s.run(TrafficSentences::hopHits);
+        s.run(TrafficSentences::missed);
     }
 
     /** Addresses 0 to 39 with these counts, of which the last one goes on to the end. */
