@@ -77,6 +77,10 @@ final class AddressSentences {
         s.due("nextOther(0) of a new table", new ForwardingTable().nextOther(0), NOT_FOUND);
         s.due("nextOther(0) with a route for all", with(0, 0, 5).nextOther(0), NOT_FOUND);
         s.due("nextOther(-1)", x.nextOther(-1), NOT_FOUND);
+        ForwardingTable shorter = with(LEAST, 1, 5);
+        s.due("nextOther(0)", shorter.nextOther(0), 2147483648L);
+        shorter.removeRoute(LEAST, 1);
+        s.due("nextOther(0) when the route went", shorter.nextOther(0), NOT_FOUND);
         s.due("nextOther in the last run", with(LEAST, 1, 5).nextOther(LEAST), NOT_FOUND);
         s.due("nextOther behind the only one", with(0, 32, 1).nextOther(1), NOT_FOUND);
         // Above the greatest address there is none: it does not go on with 0.
@@ -139,6 +143,7 @@ final class AddressSentences {
         s.says("promise 43", "Returns the number of redundant routes (each by itself).");
         s.due("redundant() of a new table", new ForwardingTable().redundant(), 0);
         s.due("redundant() of three", x.redundant(), 3);
+        s.due("redundant() of none of one, as the first question", with(TEN, 8, 1).redundant(), 0);
         // Each of the two halves and the whole is redundant by itself, but not all three are.
         s.due("redundant(), each by itself", with(TEN, 8, 1, TEN, 9, 1, Texts.ip(10, 128, 0, 0), 9, 1).redundant(), 3);
         ForwardingTable w = new ForwardingTable();

@@ -403,15 +403,23 @@ final class CallSentences {
         }
         s.due("reportLength(0) of sixty", Texts.full().reportLength(0), 10 * 13 + 50 * 14);
         s.due("reportLength(4) of forty", Texts.full().reportLength(4), 10 * 10 + 30 * 11);
-        // The longest: eighty prefixes of the hardware.
-        ForwardingTable y = Texts.loaded("capacity 40;route 255.255.255.0/24 hop 15;seen 255.255.255.0 times 1;");
-        y.sync(1);
-        for (int i = 1; i < 80; i++) {
-            y.addRoute(-100 + i, 32, 1);
-            y.removeRoute(-100 + i, 32);
+        // The longest: forty prefixes of the target with their hops, and forty exceptions.
+        ForwardingTable y = new ForwardingTable();
+        y.setCapacity(40);
+        y.addRoute(-256, 24, 1);
+        y.packet(-256, 5);
+        for (int i = 1; i < 40; i++) {
+            y.addRoute(-156 + 2 * i, 32, 15);
+            y.packet(-156 + 2 * i, 5);
+        }
+        y.sync(200);
+        for (int i = 0; i < 40; i++) {
+            y.addRoute(-155 + 2 * i, 32, 14);
+            y.removeRoute(-155 + 2 * i, 32);
         }
         s.due("hardwareSize()", y.hardwareSize(), 80);
-        s.due("reportLength(3) of eighty", y.reportLength(3), 20 + 79 * 21);
+        s.due("reportLength(3) of eighty", y.reportLength(3), 19 + 39 * 22 + 40 * 21);
+        s.due("reportByte(3), the last", y.reportByte(3, 19 + 39 * 22 + 40 * 21 - 1), '\n');
 
         s.says("promise 49", "INVALID for an invalid argument.");
         for (int kind : new int[] {-1, 5, LEAST, GREATEST}) {

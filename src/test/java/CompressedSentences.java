@@ -59,6 +59,8 @@ final class CompressedSentences {
         entries(s, "0.0.0.0/0 1\n192.0.0.0/2 0\n", 0, 2, 1, Q1, 2, 1, Q2, 2, 1);
         // A route of length 32 in a table of length 0: 32 prefixes are halved on the way.
         entries(s, "0.0.0.0/0 1\n255.255.255.255/32 2\n", 0, 0, 1, -1, 32, 2);
+        // The first route does not begin where the prefix around both begins.
+        entries(s, "0.0.0.0/30 5\n0.0.0.0/32 0\n", 1, 32, 5, 2, 31, 5);
         // Routes in both halves of each prefix down to the length 32.
         int[] routes = new int[99];
         for (int length = 0; length <= 32; length++) {
@@ -73,6 +75,12 @@ final class CompressedSentences {
         entries(s, "0.0.0.0/0 2\n0.0.0.0/2 1\n192.0.0.0/2 3\n", 0, 2, 1, Q1, 2, 2, Q2, 2, 2, Q3, 2, 3);
         entries(s, "0.0.0.0/0 1\n64.0.0.0/2 2\n128.0.0.0/2 2\n", 0, 2, 1, Q1, 2, 2, Q2, 2, 2, Q3, 2, 1);
         entries(s, "0.0.0.0/0 1\n64.0.0.0/2 2\n128.0.0.0/1 3\n192.0.0.0/2 4\n", 0, 2, 1, Q1, 2, 2, Q2, 2, 3, Q3, 2, 4);
+        // On one object: what was in a set before is in it no more.
+        ForwardingTable x = with(0, 1, 1, Q2, 1, 2);
+        s.due("entries", Texts.report(x, 1), "0.0.0.0/0 1\n128.0.0.0/1 2\n");
+        x.addRoute(0, 1, 3);
+        x.addRoute(Q2, 1, 4);
+        s.due("entries of other hops", Texts.report(x, 1), "0.0.0.0/0 3\n128.0.0.0/1 4\n");
         // The hop 15 is in both sets, the smaller ones are in one.
         entries(s, "0.0.0.0/0 15\n64.0.0.0/2 1\n192.0.0.0/2 2\n", 0, 2, 15, Q1, 2, 1, Q2, 2, 15, Q3, 2, 2);
     }

@@ -150,15 +150,21 @@ final class HardwareSentences {
         s.due("hardwareSize(): for a fifth there is no room", x.hardwareSize(), 0);
         s.due("clearings", x.count(4), 1);
         // The most that there is room for: eighty prefixes, with the capacity 40.
-        ForwardingTable y = Texts.loaded("capacity 40;route 0.0.0.0/0 hop 1;seen 0.0.0.0 times 1;");
-        y.sync(1);
-        for (int i = 1; i < 80; i++) {
-            y.addRoute(i, 32, 2);
-            y.removeRoute(i, 32);
-        }
+        ForwardingTable y = eighty();
         s.due("hardwareSize() of eighty", y.hardwareSize(), 80);
         y.addRoute(80, 32, 2);
         s.due("hardwareSize(): for one more there is no room", y.hardwareSize(), 0);
+    }
+
+    /** As many prefixes as there can be: one and 79 exceptions. */
+    private static ForwardingTable eighty() {
+        ForwardingTable x = Texts.loaded("capacity 40;route 0.0.0.0/0 hop 1;seen 0.0.0.0 times 1;");
+        x.sync(1);
+        for (int i = 1; i < 80; i++) {
+            x.addRoute(i, 32, 2);
+            x.removeRoute(i, 32);
+        }
+        return x;
     }
 
     private static void routeChanges(Sentences s) {
@@ -420,6 +426,20 @@ final class HardwareSentences {
         ForwardingTable x = turned();
         x.changes();
         s.due("hardwareSize() stays", x.hardwareSize(), 2);
+        x.clear();
+        s.due("changes() behind clear()", x.changes(), 2);
+        x.undo();
+        s.due("changes() when that is undone", x.changes(), 4);
+        x.sync(3);
+        s.due("changes() behind sync(3)", x.changes(), 1);
+        x.setCapacity(3);
+        s.due("changes() with another capacity", x.changes(), 2);
+        // The most: eighty prefixes in the hardware, and an empty target.
+        ForwardingTable most = eighty();
+        most.age();
+        s.due("changes() at the most", most.changes(), 80);
+        s.due("change(79, 0), the last", most.change(79, 0), 79);
+        s.due("sync(200) at the most", most.sync(200), 80);
 
         s.says("promise 33", "Returns a number of a change that sync() would make without a limit.");
         s.due("change(3, 1), far behind the first", turned().change(3, 1), 16);
@@ -549,6 +569,11 @@ final class HardwareSentences {
 
     private static void clear(Sentences s) {
         s.says("promise 37", "Clears the hardware.");
+        ForwardingTable one = Texts.busy();
+        one.clear();
+        s.due("hardwareSize() of one", one.hardwareSize(), 0);
+        s.due("clearings of one", one.count(4), 1);
+        s.due("churn of one put in and removed", one.count(2), 2);
         ForwardingTable x = four();
         x.clear();
         s.due("hardwareSize()", x.hardwareSize(), 0);
@@ -582,6 +607,8 @@ final class HardwareSentences {
         s.due("hardwareAddresses() of all", x.hardwareAddresses(), 4294967296L);
         x.addRoute(-1, 32, 9);
         s.due("hardwareAddresses() of all but one", x.hardwareAddresses(), 4294967295L);
+        x.addRoute(0, 0, 9);
+        s.due("hardwareAddresses() when all went", x.hardwareAddresses(), 0);
         // Inside an exception, a kept entry answers again.
         ForwardingTable y = Texts.loaded("capacity 3;route 10.0.0.0/8 hop 1;route 10.1.0.0/16 hop 2;"
                 + "route 10.1.2.0/24 hop 3;seen 10.9.0.0 times 9;seen 10.1.2.3 times 9;");

@@ -180,7 +180,11 @@ final class TargetSentences {
         s.due("exceptions() of a new table", new ForwardingTable().exceptions(), 0);
         s.due("exceptions() with 3", nested(3, 100, 1, 1, 9).exceptions(), 1);
         s.due("exceptions() with all kept", nested(4, 8, 4, 2, 1).exceptions(), 0);
-        // One around 39 others, each of which has an entry inside: kept, it has 39 exceptions.
+        ForwardingTable shorter = nested(3, 100, 1, 1, 9);
+        s.due("exceptions() with 3", shorter.exceptions(), 1);
+        shorter.setCapacity(1);
+        s.due("exceptions() of a target that became shorter", shorter.exceptions(), 0);
+        // One around 29 others, each of which has an entry inside: kept, it has 29 exceptions.
         ForwardingTable x = new ForwardingTable();
         x.setCapacity(30);
         x.addRoute(0, 0, 15);

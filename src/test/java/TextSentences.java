@@ -132,6 +132,11 @@ final class TextSentences {
         x.truncate(9);
         x.load();
         s.due("errorPosition() behind a number that was cut", x.errorPosition(), 11);
+        x.append(SPACES, SPACES, SPACES, Texts.word("capa", 0), Texts.word("city", 0));
+        x.append(Texts.word("yyyy", 0), SPACES, SPACES, SPACES, SPACES);
+        x.truncate(20);
+        x.load();
+        s.due("errorPosition() behind a word that was cut", x.errorPosition(), 20);
 
         s.says("promise 3", "`n`: number of bytes, 0 to the length of the tape");
         s.due("truncate(0) of an empty tape", new ForwardingTable().truncate(0), 0);

@@ -82,8 +82,14 @@ final class TrafficSentences {
         ForwardingTable y = logged(9, 8, 7, 7, 8);
         y.packet(99, 9999);
         s.due("log(2, 0): the smallest is dropped", y.log(2, 0), 3);
+        s.due("log(2, 1): the counts go with their addresses", y.log(2, 1), 7);
+        s.due("log(3, 1)", y.log(3, 1), 8);
         y.packet(98, 1);
         s.due("log(2, 0): the next smallest is dropped", y.log(2, 0), 4);
+        ForwardingTable second = logged(9, 1, 9);
+        second.packet(99, 9);
+        s.due("log(0, 0): the second is dropped, not the first", second.log(0, 0), 0);
+        s.due("log(1, 0)", second.log(1, 0), 2);
         // One that is in the log drops none, though the log is full.
         ForwardingTable z = logged(1);
         z.packet(39, 1);
