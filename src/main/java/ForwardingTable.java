@@ -1395,10 +1395,12 @@ public final class ForwardingTable {
         }
 
         private void gatherSets() {
-            for (int i = nodes - 1; i > 0; i--) {
+            for (int i = nodes - 1; i >= 0; i--) {
                 int hops = setOf(i);
-                inBoth[outer[i]] &= hops;
-                inOne[outer[i]] |= hops;
+                if (outer[i] >= 0) {
+                    inBoth[outer[i]] &= hops;
+                    inOne[outer[i]] |= hops;
+                }
             }
         }
 
@@ -1473,7 +1475,7 @@ public final class ForwardingTable {
                 emptyRows(depth);
             }
             for (int i = entries - 1; i >= 0; i--) {
-                int depth = cover.depth[i];
+                int depth = Math.min(cover.depth[i], DEPTHS - 2);
                 int places = Math.min(rowMost[depth + 1] + 1, MOST_ROUTES);
                 for (int parentKept = 0; parentKept <= 1; parentKept++) {
                     weighOne(i, depth + 1, parentKept);
